@@ -695,22 +695,7 @@ public final class NumberedSparks {
         if (!frame.shows(tick)) {
             return REFUSED;
         }
-        long twos = 0L;
-        int layer = NONE;
-        // In a frame's order the sparks of one layer stand together.
-        for (int i = 0; i < frame.length; i++) {
-            int row = frame.order[i];
-            if (frame.zs[row] / EIGHTHS != layer) {
-                layer = frame.zs[row] / EIGHTHS;
-                Arrays.fill(counts, 0);
-            }
-            int column = frame.columnOf(row);
-            if (column >= 0 && column < counts.length) {
-                twos += counts[column];
-                counts[column]++;
-            }
-        }
-        return twos;
+        return frame.countTwos(counts);
     }
 
     public int box(int tick, int what) {
@@ -1809,6 +1794,34 @@ public final class NumberedSparks {
                 int column = columnOf(i);
                 if (placeOf(i, 2) / EIGHTHS == z && column >= 0 && column < counts.length) {
                     counts[column]++;
+                }
+            }
+        }
+
+        /** In a frame's order the sparks of one layer stand together: each layer is counted by itself. */
+        long countTwos(int[] counts) {
+            Arrays.fill(counts, 0);
+            long twos = 0L;
+            int layerStart = 0;
+            for (int i = 0; i < length; i++) {
+                if (zs[order[i]] / EIGHTHS != zs[order[layerStart]] / EIGHTHS) {
+                    forgetColumns(layerStart, i, counts);
+                    layerStart = i;
+                }
+                int column = columnOf(order[i]);
+                if (column >= 0 && column < counts.length) {
+                    twos += counts[column];
+                    counts[column]++;
+                }
+            }
+            return twos;
+        }
+
+        private void forgetColumns(int from, int until, int[] counts) {
+            for (int i = Math.max(0, from); i < until && i < length; i++) {
+                int column = columnOf(order[i]);
+                if (column >= 0 && column < counts.length) {
+                    counts[column] = 0;
                 }
             }
         }

@@ -23,6 +23,7 @@ public final class NaiveSparks {
   }
 
   static final class Fault extends RuntimeException {
+    private static final long serialVersionUID = 1L;
     final int number, at;
     Fault(int number, int at) { this.number = number; this.at = at; }
   }
