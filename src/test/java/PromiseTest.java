@@ -165,6 +165,8 @@ public final class PromiseTest {
     faulty("world 1 1 1;Seed 1;", 1, 12);
     faulty("world 1 1 1;seed\t1;", 1, 16);
     faulty("world 1 1 1;seeds 1;", 1, 12);
+    faulty("world 1 1 1;need 1;", 1, 12);
+    faulty("world 1 1 1;sees 1;", 1, 12);
     faulty("world 1 1 1;seed 1 ;x", 1, 20);
     faulty("world 0 1 1;", 2, 6);
     faulty("world 1 41 1;", 2, 8);
@@ -196,6 +198,8 @@ public final class PromiseTest {
     faulty(world + "kind vary 1;", 1, 17);
     faulty(world + "kind life 1 speed 1 vary 1;", 1, 32);
     faulty(world + "kind life 1 falls - - 1;", 1, 32);
+    faulty(world + "kind life 1 falls ; 1;", 1, 30);
+    faulty(world + "kind life 1 falls 45 1;", 2, 30);
     faulty(world + "kind life 1 bounce wrap;", 1, 31);
     faulty(world + "kind life 1 size 1 size 1;", 1, 31);
     faulty(world + "kind life 1;kind life 1 childs 1;", 1, 44);
@@ -525,6 +529,23 @@ public final class PromiseTest {
     due("drawn(2, -1)", x.drawn(2, -1), -2);
     due("drawn(11, 0)", x.drawn(11, 0), -1);
     for (int tick : NO_TICKS) due("drawn(" + tick + ", 0)", x.drawn(tick, 0), -2);
+    // From the deepest eighth, 319, to the foremost one.
+    NumberedSparks y = told("world 1 1 40;seed 1;kind life 40 speed 20 bounce;source 0 at 0 0 39 from 0 every 1 burst 5;");
+    boolean deepest = false, foremost = false;
+    for (int tick = 40; tick < 48; tick++)
+      for (int k = 0; k < 20; k++) {
+        // One end of the frame and the other.
+        for (int at : new int[] {k, 179 + k}) {
+          int code = y.drawn(tick, at), next = y.drawn(tick, at + 1);
+          NumberedSparks again = told("world 1 1 40;seed 1;kind life 40 speed 20 bounce;source 0 at 0 0 39 from 0 every 1 burst 5;");
+          int z = again.place(code, tick, 2), nextZ = next < 0 ? -1 : again.place(next, tick, 2);
+          due("drawn(" + tick + ", " + at + ") ahead of the next", z > nextZ || z == nextZ && code < next ? 1 : 0, 1);
+          deepest |= z == 319;
+          foremost |= z < 8;
+        }
+      }
+    due("some lie deepest", deepest ? 1 : 0, 1);
+    due("some lie foremost", foremost ? 1 : 0, 1);
     due("drawn(0, 0) without", new NumberedSparks().drawn(0, 0), -2);
   }
 
@@ -1103,6 +1124,20 @@ public final class PromiseTest {
     for (int i = 1; i <= 12; i++) x.seed(i);
     for (int i = 9; i >= 0; i--) due("undo()", x.undo(), i);
     due("count(5)", x.count(5), 2);
+    due("undo()", x.undo(), -1);
+    // Twelve of all sorts: the first two can't be taken back.
+    int[][] changes = {{0, 0, 11}, {0, 1, 3}, {0, 0, 12}, {0, 4, 5}, {-1, 0, 70}, {0, 2, 7}, {0, 3, -8}, {-1, 0, 71}, {0, 4, 6}, {-1, 0, 72}, {0, 0, 13}, {0, 3, 8}};
+    int[][] seen = new int[13][];
+    for (int i = 0; i <= 12; i++) {
+      seen[i] = new int[] {x.kind(0, 0), x.kind(0, 1), x.kind(0, 2), x.kind(0, 3), x.kind(0, 4), x.count(5)};
+      if (i < 12 && changes[i][0] < 0) x.seed(changes[i][2]);
+      else if (i < 12) x.sets(0, changes[i][1], changes[i][2]);
+    }
+    for (int i = 11; i >= 2; i--) {
+      due("undo()", x.undo(), i - 2);
+      for (int what = 0; what < 5; what++) due("kind(0, " + what + ") behind undo", x.kind(0, what), seen[i][what]);
+      due("count(5) behind undo", x.count(5), seen[i][5]);
+    }
     due("undo()", x.undo(), -1);
     x.seed(50);
     feedText(x, "world 1 1;");

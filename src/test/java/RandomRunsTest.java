@@ -32,7 +32,7 @@ public final class RandomRunsTest {
   private RandomRunsTest(long seed) { random = new Random(seed); }
 
   public static void main(String[] args) throws Exception {
-    int runs = args.length > 0 ? Integer.parseInt(args[0]) : 150;
+    int runs = args.length > 0 ? Integer.parseInt(args[0]) : 600;
     long from = args.length > 1 ? Long.parseLong(args[1]) : 0;
     int wrong = 0;
     for (long seed = from; seed < from + runs; seed++) {
