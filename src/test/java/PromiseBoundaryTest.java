@@ -35,6 +35,14 @@ public final class PromiseBoundaryTest extends Checks {
     return x;
   }
 
+  private static final int[] PATHS = {0, 16, 17, 18, 32, 33, 34};
+
+  /** Roots with all children and grandchildren that there can be, which fly and end at the edge or come back from it. */
+  private static String flying(String edge, int seed) {
+    String kind = "kind life 2 vary 4 speed 6 falls 1 " + edge;
+    return "world 3 4 5;seed " + seed + ";" + kind + ";" + kind + " childs 2 of 0;" + kind + " childs 2 of 1;source 2 at 1 1 3 from 40 every 2 burst 2 until 44 jitter 3;";
+  }
+
   // ---- the text ----
 
   static void promise1() {
@@ -148,6 +156,17 @@ public final class PromiseBoundaryTest extends Checks {
     feedText(z, STILL.replace("burst 2", "burst 3"));
     z.scene();
     due("many(7, -1)", z.many(7, -1), 6);
+    // Nor are sources that the new one has not.
+    NumberedSparks four = told(WORLD + "kind life 9;" + "source 0 at 0 0 0 from 0 every 1 until 9;".repeat(4));
+    due("many(5, -1)", four.many(5, -1), 24);
+    feedText(four, WORLD + "kind life 9;source 0 at 0 0 0 from 0 every 1 until 9;");
+    due("scene()", four.scene(), 3);
+    due("many(5, -1)", four.many(5, -1), 6);
+    due("endings(0, 100)", four.endings(0, 100), 10);
+    feedText(four, WORLD);
+    due("scene()", four.scene(), 1);
+    due("many(5, -1)", four.many(5, -1), 0);
+    due("peak(0, 60, 1)", four.peak(0, 60, 1), 0);
     doc.says("-4: a FAULT (the TAPE is empty, all else stays).");
     NumberedSparks y = told(Refusals.TEXT);
     y.seed(8);
@@ -421,6 +440,14 @@ public final class PromiseBoundaryTest extends Checks {
     due("endings from their first tick on", late.endings(9999, 10299), 35);
     due("endings in the last one's tick", late.endings(ends, ends + 300) > 0 ? 1 : 0, 1);
     due("endings behind it", late.endings(ends + 1, ends + 301), 0);
+    for (String edge : List.of("wrap", "ends"))
+      for (int seed = 0; seed < 5; seed++) {
+        NumberedSparks y = told(flying(edge, seed));
+        int[] in = new int[100];
+        for (int k = 0; k < 6; k++)
+          for (int path : PATHS) in[y.spark(1024 * k + path, 6)]++;
+        for (int t = 38; t < 100; t++) due("endings(" + t + ", " + (t + 1) + ") of seed " + seed, y.endings(t, t + 1), in[t]);
+      }
     Refusals.testWindows("endings", 0, 300, (y, a, b) -> y.endings(a, b));
     refusals("endings");
   }
@@ -450,6 +477,11 @@ public final class PromiseBoundaryTest extends Checks {
     for (int k : new int[] {-1, -2, MIN}) due("drawn(2, " + k + ")", x.drawn(2, k), -2);
     due("drawn(11, 0)", x.drawn(11, 0), -1);
     due("drawn(11, -1)", x.drawn(11, -1), -2);
+    // Frames of 1 to 40: none is lost, whatever room they take.
+    for (int many = 1; many <= 40; many++) {
+      NumberedSparks y = told(WORLD + "kind life 40;source 0 at 0 0 0 from 0 every 1 until " + (many - 1) + ";");
+      for (int k = 0; k <= many; k++) due("drawn(39, " + k + ") of " + many, y.drawn(39, k), k < many ? 1024 * k : -1);
+    }
     // Behind a fuller frame nothing of it is left.
     due("drawn(9, 1)", x.drawn(9, 1), -1);
     due("drawn(30001, 100)", x.drawn(30001, 100), -2);
@@ -459,13 +491,13 @@ public final class PromiseBoundaryTest extends Checks {
   static void promise22() {
     doc.says("17 at first, then for each in order 31 times it and CODE, then 31 times that and x of its PLACE, likewise y, z (longs, which go round).");
     NumberedSparks x = told("world 9 9 9;seed 3;kind life 9 speed 9;source 0 at 4 4 4 from 0 every 1 burst 5 until 9;");
-    long n = 17;
-    for (int k = 0; x.drawn(5, k) >= 0; k++) {
-      int code = x.drawn(5, k);
-      n = 31 * n + code;
-      for (int what = 0; what < 3; what++) n = 31 * n + x.place(code, 5, what);
-    }
-    due("digest(5)", x.digest(5), n);
+    due("digest(5)", x.digest(5), digestByPlaces(x, 5));
+    for (String edge : List.of("wrap", "bounce", "ends"))
+      for (int seed = 0; seed < 3; seed++)
+        for (int tick = 40; tick < 64; tick++) {
+          NumberedSparks y = told(flying(edge, seed));
+          due("digest(" + tick + ")", y.digest(tick), digestByPlaces(y, tick));
+        }
     due("it is too great for an int", (int) x.digest(5) != x.digest(5) ? 1 : 0, 1);
     due("digest(30000)", x.digest(30000), 17);
     due("digest(0)", told(WORLD).digest(0), 17);
@@ -473,6 +505,16 @@ public final class PromiseBoundaryTest extends Checks {
     for (int tick : NO_TICKS) due("digest(" + tick + ")", x.digest(tick), 0);
     for (int tick : NO_TICKS) due("digest(" + tick + ") without", new NumberedSparks().digest(tick), 0);
     refusals("digest");
+  }
+
+  private static long digestByPlaces(NumberedSparks x, int tick) {
+    long n = 17;
+    for (int k = 0; x.drawn(tick, k) >= 0; k++) {
+      int code = x.drawn(tick, k);
+      n = 31 * n + code;
+      for (int what = 0; what < 3; what++) n = 31 * n + x.place(code, tick, what);
+    }
+    return n;
   }
 
   static void promise23() {
@@ -582,8 +624,26 @@ public final class PromiseBoundaryTest extends Checks {
       {30000, 30001, 30000, 0}};
     for (int[] w : want)
       for (int what = 0; what < 2; what++) due("peak(" + w[0] + ", " + w[1] + ", " + what + ")", x.peak(w[0], w[1], what), w[2 + what]);
+    comingAndGoing();
     Refusals.testWindows("peak", 1, 60, (y, a, b) -> y.peak(a, b, 1));
     refusals("peak");
+  }
+
+  /** Sparks that come and go in the window, ahead of it, behind it: held against many(). */
+  private static void comingAndGoing() {
+    String text = "world 5 5 5;seed 8;kind life 2 vary 4;kind life 1 vary 3 childs 2 of 0;source 1 at 2 2 2 from 20 every 6 burst 4 until 60 jitter 9;";
+    NumberedSparks x = told(text);
+    int[] many = new int[120];
+    for (int t = 0; t < 120; t++) many[t] = x.many(t, -1);
+    for (int a = 1; a < 60; a += 3) {
+      NumberedSparks y = told(text);
+      for (int b = a + 1; b <= a + 60; b += 4) {
+        int best = a;
+        for (int t = a; t < b; t++) if (many[t] > many[best]) best = t;
+        due("peak(" + a + ", " + b + ", 0)", y.peak(a, b, 0), best);
+        due("peak(" + a + ", " + b + ", 1)", y.peak(a, b, 1), many[best]);
+      }
+    }
   }
 
   static void promise30() {
@@ -645,6 +705,22 @@ public final class PromiseBoundaryTest extends Checks {
       due("octet of the first row's end", x.octet(world[0]), 10);
       if (length > 2) due("octet(0)", x.octet(0), '.');
     }
+    // The one on top may have the least code of all, the greatest, or one between.
+    NumberedSparks three = told("world 3 2 2;kind life 1;source 0 at 2 0 1 from 0 every 1 until 0;source 0 at 0 1 0 from 0 every 1 until 0;source 0 at 1 1 0 from 0 every 1 burst 2 until 0;"
+      + "source 0 at 0 1 1 from 0 every 1 until 0;");
+    due("picture(0)", three.picture(0), 8);
+    dueOut(three, ".." + draw(0, 0, 5, 8) + "\n" + draw(0, 256, 5, 8) + draw(0, 1536, 5, 8) + ".\n");
+    // Nothing of what was counted ahead of it is left in it.
+    NumberedSparks busy = told(Refusals.TEXT);
+    busy.fullest(7, 0);
+    busy.picture(7);
+    busy.layer(7, 0);
+    busy.columns(7);
+    busy.lull(0, 0, 30, 0);
+    busy.picture(0);
+    dueOut(busy, draw(0, 256, 5, 8) + "...\n....\n....\n");
+    busy.layer(0, 1);
+    dueOut(busy, "1...\n....\n....\n");
     doc.says("-2 (OUT stays).");
     outStays("picture");
   }
@@ -738,7 +814,32 @@ public final class PromiseBoundaryTest extends Checks {
     NumberedSparks apart = told("world 2 2 2;kind life 3;source 0 at 0 0 0 from 0 every 1;source 0 at 0 0 1 from 0 every 1;source 0 at 0 1 0 from 0 every 1;source 0 at 1 0 0 from 0 every 1;");
     for (int s = 1; s < 4; s++) due("meets(0, " + 256 * s + ")", apart.meets(0, 256 * s), -1);
     due("meets of one that is none with itself", apart.meets(1, 1), -2);
+    flyingMeets();
     refusals("meets");
+  }
+
+  /** Sparks that fly, born in their own ticks, far from 0. */
+  private static void flyingMeets() {
+    int met = 0, never = 0, later = 0;
+    for (int seed = 0; seed < 20; seed++) {
+      NumberedSparks x = told("world 3 2 2;seed " + seed + ";kind life 9 vary 9 speed 5;source 0 at 0 0 0 from 50 every 3 until 53;source 0 at 2 1 1 from 47 every 5 until 52 jitter 6;");
+      int[] codes = {0, 1024, 256, 1280};
+      for (int one : codes)
+        for (int two : codes) {
+          if (one == two) continue;
+          int want = -1;
+          for (int t = 80; t >= 40; t--) {
+            boolean together = x.place(one, t, 0) >= 0 && x.place(two, t, 0) >= 0;
+            for (int what = 0; what < 3 && together; what++) together = x.place(one, t, what) / 8 == x.place(two, t, what) / 8;
+            if (together) want = t;
+          }
+          x = told("world 3 2 2;seed " + seed + ";kind life 9 vary 9 speed 5;source 0 at 0 0 0 from 50 every 3 until 53;source 0 at 2 1 1 from 47 every 5 until 52 jitter 6;");
+          due("meets(" + one + ", " + two + ") of seed " + seed, x.meets(one, two), want);
+          if (want < 0) never++; else met++;
+          if (want > Math.max(x.spark(one, 5), x.spark(two, 5))) later++;
+        }
+    }
+    due("some met, some never, some later than both were there", met > 0 && never > 0 && later > 0 ? 1 : 0, 1);
   }
 
   static void promise37() {
@@ -902,6 +1003,20 @@ public final class PromiseBoundaryTest extends Checks {
     NumberedSparks rise = told(RISE.replace("EDGE", ""));
     due("reach(0, 1, 1)", rise.reach(0, 1, 1), 12);
     due("reach(0, 1, 0)", rise.reach(0, 1, 0), 0);
+    // x and z, too, of sparks that are born far from 0.
+    for (int seed = 0; seed < 20; seed++) {
+      NumberedSparks x = told("world 9 9 9;seed " + seed + ";kind life 1 vary 5 speed 9 bounce;source 0 at 4 4 4 from 30 every 1 burst 4 until 30 jitter 9;");
+      for (int k = 0; k < 4; k++)
+        for (int what = 0; what < 3; what++) {
+          int least = MAX, most = MIN;
+          for (int t = x.spark(1024 * k, 5); t < x.spark(1024 * k, 6); t++) {
+            least = Math.min(least, x.place(1024 * k, t, what));
+            most = Math.max(most, x.place(1024 * k, t, what));
+          }
+          due("reach(" + 1024 * k + ", " + what + ", 0) of seed " + seed, x.reach(1024 * k, what, 0), least);
+          due("reach(" + 1024 * k + ", " + what + ", 1) of seed " + seed, x.reach(1024 * k, what, 1), most);
+        }
+    }
     refusals("reach");
   }
 
@@ -1164,6 +1279,7 @@ public final class PromiseBoundaryTest extends Checks {
     due("lull(0, 8000, 10000, 1)", always.lull(0, 8000, 10000, 1), -1);
     due("lull(0, 8001, 10001, 0)", always.lull(0, 8001, 10001, 0), 1);
     due("lull(0, 8001, 10001, 1)", always.lull(0, 8001, 10001, 1), 10000);
+    jitteredLulls();
     // Another source's births do not end a row.
     NumberedSparks two = told(WORLD + KIND + "source 0 at 0 0 0 from 5 every 1 until 5;source 0 at 0 0 0 from 0 every 1;");
     due("lull(0, 0, 11, 0)", two.lull(0, 0, 11, 0), 5);
@@ -1171,6 +1287,28 @@ public final class PromiseBoundaryTest extends Checks {
     due("lull(1, 0, 11, 0)", two.lull(1, 0, 11, 0), 0);
     Refusals.testWindows("lull", 1, 2000, (y, a, b) -> y.lull(0, a, b, 0));
     refusals("lull");
+  }
+
+  /** With jitter, births that were planned ahead of the window come in it, and planned ones behind it: held against births(). */
+  private static void jitteredLulls() {
+    for (int seed = 0; seed < 6; seed++) {
+      String text = WORLD + "seed " + seed + ";" + KIND + "source 0 at 0 0 0 from 20 every 9 burst 2 until 90 jitter 20;";
+      NumberedSparks x = told(text);
+      boolean[] born = new boolean[130];
+      for (int t = 0; t < 130; t++) born[t] = x.births(0, t, t + 1) > 0;
+      NumberedSparks y = told(text);
+      for (int a = 10; a < 110; a += 7)
+        for (int b = a + 1; b < 125; b += 11) {
+          int longest = 0, first = -1;
+          for (int t = a; t < b; t++) {
+            int row = 0;
+            while (t + row < b && !born[t + row]) row++;
+            if (row > longest) { longest = row; first = t; }
+          }
+          due("lull(0, " + a + ", " + b + ", 0)", y.lull(0, a, b, 0), longest);
+          due("lull(0, " + a + ", " + b + ", 1)", y.lull(0, a, b, 1), first);
+        }
+    }
   }
 
   static void promise55() {

@@ -931,15 +931,18 @@ public final class PromiseTest extends Checks {
   }
 
   static void promise46() {
-    NumberedSparks x = told("world 4 1 1;seed 7;kind life 10 speed 5;source 0 at 1 0 0 from 0 every 3 until 30;");
+    String text = "world 4 1 1;seed 7;kind life 10 speed 5;source 0 at 1 0 0 from 0 every 3 until 30;";
+    NumberedSparks x = told(text);
     int all = 0;
-    for (int a = 0; a < 45; a += 2)
+    for (int a = 0; a < 45; a += 2) {
+      NumberedSparks y = told(text);
       for (int b = a; b < 48; b += 5)
         for (int n = 1; n < 4; n++)
           for (int way = 0; way < 2; way++) {
-            due("flux(" + a + ", " + b + ", " + n + ", " + way + ")", x.flux(a, b, n, way), fluxDue(a, b, n, way));
+            due("flux(" + a + ", " + b + ", " + n + ", " + way + ")", y.flux(a, b, n, way), fluxDue(a, b, n, way));
             all += fluxDue(a, b, n, way);
           }
+    }
     due("some went over", all > 0 ? 1 : 0, 1);
     due("flux(0, 60, 1, 1)", x.flux(0, 60, 1, 1), fluxDue(0, 60, 1, 1));
     due("flux(0, 61, 1, 1)", x.flux(0, 61, 1, 1), -2);

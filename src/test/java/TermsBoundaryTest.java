@@ -415,7 +415,12 @@ public final class TermsBoundaryTest extends Checks {
     due("place(16, 4, 1)", cut.place(16, 4, 1), 10);
     due("many(4, 0)", cut.many(4, 0), 1);
     due("many(4, 1)", cut.many(4, 1), 0);
+    // A jitter of 1 is a draw of 2.
+    NumberedSparks coin = told(WORLD + KIND + "source 0 at 0 0 0 from 0 every 1 burst 5 jitter 1;");
+    for (int k = 0; k < 50; k++) due("spark(" + 1024 * k + ", 5)", coin.spark(1024 * k, 5), k / 5 + draw(0, 1024 * k, 0, 2));
     doc.says("LIFE: life and a DRAW of vary and 1.");
+    NumberedSparks vary1 = told(WORLD + "kind life 3 vary 1;source 0 at 0 0 0 from 0 every 1 burst 5;");
+    for (int k = 0; k < 50; k++) due("spark(" + 1024 * k + ", 6)", vary1.spark(1024 * k, 6), k / 5 + 3 + draw(0, 1024 * k, 1, 2));
     for (int life : new int[] {1, 40}) due("spark(0, 6)", told(WORLD + "kind life " + life + ";" + SOURCE).spark(0, 6), life);
     NumberedSparks vary = told(WORLD + "kind life 40 vary 20;source 0 at 0 0 0 from 0 every 1 burst 5;");
     for (int k = 0; k < 100; k++) due("spark(" + 1024 * k + ", 6)", vary.spark(1024 * k, 6), k / 5 + 40 + draw(0, 1024 * k, 1, 21));
@@ -442,8 +447,9 @@ public final class TermsBoundaryTest extends Checks {
     for (int life = 1; life <= 5; life++) due("spark(0, 6)", falling(4, "bounce", life).spark(0, 6), 100 + life);
     doc.says("ends: beyond is what is below 0 or not below the world's.");
     // Ages: 8 in 2; 7 in 2, 13 in 3; 0 in 2, -8 in 3; -1 in 2; never.
-    int[][] sides = {{4, 2}, {3, 3}, {-4, 3}, {-5, 2}, {9, 2}, {-9, 2}, {0, 40}};
+    int[][] sides = {{4, 2}, {3, 3}, {-4, 3}, {-5, 2}, {9, 2}, {-9, 2}, {1, 4}, {-1, 4}, {0, 40}};
     for (int[] w : sides) due("spark(0, 6) with falls " + w[0], falling(w[0], "ends", 40).spark(0, 6), 100 + w[1]);
+    slowEnds();
     boolean[] sideSeen = new boolean[6];
     boolean atWorld = false, atZero = false, atLast = false;
     int[] world = {16, 24, 32}, begins = {4, 12, 20};
@@ -463,6 +469,54 @@ public final class TermsBoundaryTest extends Checks {
     }
     for (int side = 0; side < 6; side++) due("some went over side " + side, sideSeen[side] ? 1 : 0, 1);
     due("some came to 0, to the world's, to one less", atWorld && atZero && atLast ? 1 : 0, 1);
+  }
+
+  /** One eighth a tick at most: from 4 it is beyond a world of 8 in age 4 upwards, in age 5 downwards. */
+  private static void slowEnds() {
+    int[] seen = new int[3];
+    for (int seed = 0; seed < 20; seed++) {
+      int age = 40;
+      for (int axis = 0; axis < 3; axis++) {
+        int speed = draw(seed, 0, 2 + axis, 3) - 1;
+        age = Math.min(age, speed == 0 ? 40 : speed > 0 ? 4 : 5);
+      }
+      NumberedSparks x = told(WORLD + "seed " + seed + ";kind life 40 speed 1 ends;source 0 at 0 0 0 from 0 every 1 until 0;");
+      due("spark(0, 6) of seed " + seed, x.spark(0, 6), age);
+      seen[age == 40 ? 2 : age - 4]++;
+    }
+    due("some went up, some down", Math.min(seen[0], seen[1]) > 0 ? 1 : 0, 1);
+  }
+
+  /** Where it would be, brought back by its edge; NONE, if it is beyond and ends there. */
+  private static int brought(int at, int world, String edge) {
+    if (edge.equals("ends")) return at < 0 || at >= world ? -1 : at;
+    int m = Math.floorMod(at, edge.equals("wrap") ? world : 2 * world);
+    return m < world ? m : 2 * world - 1 - m;
+  }
+
+  /** Three generations that fly, fall and come to the edges, far from tick 0: each begins where the one ahead of it was last. */
+  private static void generations(String edge, int seed) {
+    int[] world = {24, 32, 40}, begins = {12, 20, 28};
+    String kind = "kind life 3 vary 5 speed 9 falls -2 " + edge;
+    NumberedSparks x = told("world 3 4 5;seed " + seed + ";" + kind + ";" + kind + " childs 1 of 0;" + kind + " childs 2 of 1;source 2 at 1 2 3 from 50 every 1 until 50;");
+    int born = 50;
+    for (int code : new int[] {0, 32, 33}) {
+      int life = 3 + draw(seed, code, 1, 6), age = 0;
+      int[] last = begins;
+      for (; age < life; age++) {
+        int[] here = new int[3];
+        for (int axis = 0; axis < 3; axis++)
+          here[axis] = brought(begins[axis] + age * (draw(seed, code, 2 + axis, 19) - 9) - (axis == 1 ? age * (age - 1) : 0), world[axis], edge);
+        if (Math.min(here[0], Math.min(here[1], here[2])) < 0) break;
+        for (int axis = 0; axis < 3; axis++) due("place(" + code + ", " + (born + age) + ", " + axis + ")", x.place(code, born + age, axis), here[axis]);
+        last = here;
+      }
+      due("spark(" + code + ", 5)", x.spark(code, 5), born);
+      due("spark(" + code + ", 6)", x.spark(code, 6), born + age);
+      due("place(" + code + ", " + (born + age) + ", 0)", x.place(code, born + age, 0), -1);
+      begins = last;
+      born += age;
+    }
   }
 
   private static void places() {
@@ -486,6 +540,8 @@ public final class TermsBoundaryTest extends Checks {
       due("place(16, " + life + ", 1)", told(text.replace("EDGE", "wrap")).place(16, life, 1), new int[] {4, 4, 0, 0}[life - 1]);
       due("place(16, " + life + ", 1)", told(text.replace("EDGE", "bounce")).place(16, life, 1), new int[] {4, 4, 7, 0}[life - 1]);
     }
+    for (String edge : List.of("wrap", "bounce", "ends"))
+      for (int seed = 0; seed < 12; seed++) generations(edge, seed);
     doc.says("wrap: modulo the world's (8 times its CELLS; 0 and above)");
     // Without edges: 4, 4, 8, 16, 28, 44, 64; 4, 4, 0, -8, -20, -36, -56; 4, 4, -1, -11, -26; 4, 4, 7, 13, 22.
     int[] falls = {4, -4, -5, 3};
