@@ -257,7 +257,7 @@ public final class NumberedSparks {
             case 7:
             case 8:
             case 9:
-                return it.speed[what - 7];
+                return it.speedAlong(what - 7);
             default:
                 return UNKNOWN;
         }
@@ -417,7 +417,7 @@ public final class NumberedSparks {
         out.putNumber(it.ends);
         for (int axis = 0; axis < 3; axis++) {
             out.put(' ');
-            out.putNumber(it.start[axis]);
+            out.putNumber(it.placeAt(axis, 0));
         }
         return out.length;
     }
@@ -570,7 +570,7 @@ public final class NumberedSparks {
         }
         int many = 0;
         for (int i = 0; i < frame.length; i++) {
-            if (frame.kinds[i] == what) {
+            if (frame.kindOf(i) == what) {
                 many++;
             }
         }
@@ -581,7 +581,7 @@ public final class NumberedSparks {
         if (k < 0 || !frame.shows(tick)) {
             return REFUSED;
         }
-        return k < frame.length ? frame.codes[frame.order[k]] : NONE;
+        return k < frame.length ? frame.codeOf(frame.rowAt(k)) : NONE;
     }
 
     public long digest(int tick) {
@@ -590,11 +590,11 @@ public final class NumberedSparks {
         }
         long number = 17L;
         for (int i = 0; i < frame.length; i++) {
-            int row = frame.order[i];
-            number = 31L * number + frame.codes[row];
-            number = 31L * number + frame.xs[row];
-            number = 31L * number + frame.ys[row];
-            number = 31L * number + frame.zs[row];
+            int row = frame.rowAt(i);
+            number = 31L * number + frame.codeOf(row);
+            for (int axis = 0; axis < 3; axis++) {
+                number = 31L * number + frame.placeOf(row, axis);
+            }
         }
         return number;
     }
@@ -671,7 +671,7 @@ public final class NumberedSparks {
             int far = frame.farSquared(i, x, y, z);
             // The rows stand by code: the first of like ones has the least.
             if (best == NONE || far < least) {
-                best = frame.codes[i];
+                best = frame.codeOf(i);
                 least = far;
             }
         }
@@ -733,7 +733,7 @@ public final class NumberedSparks {
         }
         int many = 0;
         for (int i = 0; i < frame.length; i++) {
-            if (frame.borns[i] <= other && other < frame.ends[i]) {
+            if (frame.bornOf(i) <= other && other < frame.endOf(i)) {
                 many++;
             }
         }
@@ -749,12 +749,13 @@ public final class NumberedSparks {
         int eldest = NONE;
         int firstBorn = 0;
         for (int i = 0; i < frame.length; i++) {
-            if (generationOf(frame.codes[i]) == generation) {
+            if (generationOf(frame.codeOf(i)) == generation) {
                 many++;
-                ages += tick - frame.borns[i];
-                if (eldest == NONE || frame.borns[i] < firstBorn) {
-                    eldest = frame.codes[i];
-                    firstBorn = frame.borns[i];
+                int born = frame.bornOf(i);
+                ages += tick - born;
+                if (eldest == NONE || born < firstBorn) {
+                    eldest = frame.codeOf(i);
+                    firstBorn = born;
                 }
             }
         }
@@ -770,7 +771,7 @@ public final class NumberedSparks {
         }
         int many = 0;
         for (int i = 0; i < frame.length; i++) {
-            if (scene.colourOf(frame.codes[i]) == colour) {
+            if (scene.colourOf(frame.codeOf(i)) == colour) {
                 many++;
             }
         }
@@ -783,10 +784,10 @@ public final class NumberedSparks {
         }
         int many = 0;
         for (int i = 0; i < frame.length; i++) {
-            int parent = codeOfParent(frame.codes[i]);
+            int parent = codeOfParent(frame.codeOf(i));
             // The rows stand by code, so a twin is among the next of its root.
             for (int j = i + 1; parent != NONE && j < frame.length && j < i + LINE_SPARKS; j++) {
-                if (codeOfParent(frame.codes[j]) == parent) {
+                if (codeOfParent(frame.codeOf(j)) == parent) {
                     many += 2;
                 }
             }
@@ -804,9 +805,8 @@ public final class NumberedSparks {
         out.clear();
         for (int y = 0; y < scene.cellsAlong(1); y++) {
             for (int x = 0; x < scene.cellsAlong(0); x++) {
-                int row = counts[y * MOST_CELLS + x] - 1;
-                boolean shown = row >= 0 && row < frame.length;
-                out.put(shown ? '0' + scene.colourOf(frame.codes[row]) : '.');
+                int mark = countOfColumn(x, y);
+                out.put(mark > 0 ? '0' + scene.colourOf(frame.codeOf(mark - 1)) : '.');
             }
             out.put('\n');
         }
@@ -821,12 +821,17 @@ public final class NumberedSparks {
         out.clear();
         for (int y = 0; y < scene.cellsAlong(1); y++) {
             for (int x = 0; x < scene.cellsAlong(0); x++) {
-                int many = counts[y * MOST_CELLS + x];
+                int many = countOfColumn(x, y);
                 out.put(many > 0 ? '0' + Math.min(9, many) : '.');
             }
             out.put('\n');
         }
         return out.length;
+    }
+
+    private int countOfColumn(int x, int y) {
+        int column = columnAt(x, y);
+        return column >= 0 && column < counts.length ? counts[column] : 0;
     }
 
     // ---- what all of them ask ----
@@ -837,6 +842,11 @@ public final class NumberedSparks {
 
     private static boolean isAxis(int what) {
         return what >= 0 && what <= 2;
+    }
+
+    /** A column's place in a row of all columns, which stand by y, then x. */
+    private static int columnAt(int x, int y) {
+        return y * MOST_CELLS + x;
     }
 
     private boolean isWindow(int a, int b) {
@@ -881,9 +891,9 @@ public final class NumberedSparks {
 
     /** What a text tells, and what follows of it for sources and their roots. */
     private static final class Scene {
-        final int[] cells = new int[3];
-        final int[] kinds = new int[MOST_KINDS * KIND_FIELDS];
-        final int[] sources = new int[MOST_SOURCES * SOURCE_FIELDS];
+        private final int[] cells = new int[3];
+        private final int[] kinds = new int[MOST_KINDS * KIND_FIELDS];
+        private final int[] sources = new int[MOST_SOURCES * SOURCE_FIELDS];
         int kindCount;
         int sourceCount;
         int seed;
@@ -912,6 +922,12 @@ public final class NumberedSparks {
 
         int cellsAlong(int axis) {
             return axis >= 0 && axis < cells.length ? cells[axis] : 0;
+        }
+
+        void setCells(int axis, int many) {
+            if (axis >= 0 && axis < cells.length) {
+                cells[axis] = many;
+            }
         }
 
         boolean isCell(int axis, int at) {
@@ -1124,7 +1140,7 @@ public final class NumberedSparks {
         private void readWorld() {
             needWord("world");
             for (int axis = 0; axis < 3; axis++) {
-                draft.cells[axis] = needNumber(1, MOST_CELLS);
+                draft.setCells(axis, needNumber(1, MOST_CELLS));
             }
             needSign(';');
         }
@@ -1195,7 +1211,7 @@ public final class NumberedSparks {
             draft.setSource(s, ITS_KIND, needNumber(0, draft.kindCount - 1));
             needWord("at");
             for (int axis = 0; axis < 3; axis++) {
-                draft.setSource(s, ITS_CELL + axis, needNumber(0, draft.cells[axis] - 1));
+                draft.setSource(s, ITS_CELL + axis, needNumber(0, draft.cellsAlong(axis) - 1));
             }
             needWord("from");
             draft.setSource(s, FROM, needNumber(0, MOST_TICK_TOLD));
@@ -1312,9 +1328,9 @@ public final class NumberedSparks {
 
     /** One spark: begun as a root's own or as a child, then sent off by fly(). */
     private static final class Spark {
-        final Scene scene;
-        final int[] start = new int[3];
-        final int[] speed = new int[3];
+        private final Scene scene;
+        private final int[] start = new int[3];
+        private final int[] speed = new int[3];
         int code;
         int kind;
         int generation;
@@ -1381,6 +1397,10 @@ public final class NumberedSparks {
                 }
             }
             return limit;
+        }
+
+        int speedAlong(int axis) {
+            return axis >= 0 && axis < speed.length ? speed[axis] : 0;
         }
 
         boolean isThere(int tick) {
@@ -1639,24 +1659,29 @@ public final class NumberedSparks {
 
         /** The j-th that the latest step shows. */
         Spark shown(int j) {
-            return line[j >= 0 && j < showing ? shownRows[j] : 0];
+            int row = j >= 0 && j < showing && j < LINE_SPARKS ? shownRows[j] : 0;
+            return line[row >= 0 && row < LINE_SPARKS ? row : 0];
         }
     }
 
     /** All sparks of one tick, in rows by code and in a frame's order. */
     private static final class Frame {
+        // What a row has of its spark; behind PLACE its x, y, z.
+        private static final int CODE = 0;
+        private static final int KIND = 1;
+        private static final int BORN = 2;
+        private static final int END = 3;
+        private static final int PLACE = 4;
+        private static final int ROW_FIELDS = 7;
+        // No tick has more: of each root that was planned up to 200 ticks ahead, 20 a tick, 4 sparks at most.
+        private static final int MOST_ROWS = 16384;
+
         private final Scene scene;
         private final Walk walk;
         int length;
-        int[] codes = new int[16];
-        int[] kinds = new int[16];
-        int[] borns = new int[16];
-        int[] ends = new int[16];
-        int[] xs = new int[16];
-        int[] ys = new int[16];
-        int[] zs = new int[16];
+        private int[] rows = new int[16 * ROW_FIELDS];
         /** Which row stands at each place of the frame. */
-        int[] order = new int[16];
+        private int[] order = new int[16];
         private final int[] depths = new int[MOST_CELLS * EIGHTHS];
         private int tick = NONE;
 
@@ -1690,30 +1715,29 @@ public final class NumberedSparks {
         }
 
         private void append(Spark it, int wanted) {
-            if (length >= codes.length) {
+            if (length >= order.length) {
                 grow();
             }
-            int age = wanted - it.born;
-            codes[length] = it.code;
-            kinds[length] = it.kind;
-            borns[length] = it.born;
-            ends[length] = it.ends;
-            xs[length] = it.placeAt(0, age);
-            ys[length] = it.placeAt(1, age);
-            zs[length] = it.placeAt(2, age);
+            int at = length * ROW_FIELDS;
+            if (at < 0 || at + ROW_FIELDS > rows.length) {
+                return;
+            }
+            rows[at + CODE] = it.code;
+            rows[at + KIND] = it.kind;
+            rows[at + BORN] = it.born;
+            rows[at + END] = it.ends;
+            for (int axis = 0; axis < 3; axis++) {
+                rows[at + PLACE + axis] = it.placeAt(axis, wanted - it.born);
+            }
             length++;
         }
 
         private void grow() {
-            int more = 2 * codes.length;
-            codes = Arrays.copyOf(codes, more);
-            kinds = Arrays.copyOf(kinds, more);
-            borns = Arrays.copyOf(borns, more);
-            ends = Arrays.copyOf(ends, more);
-            xs = Arrays.copyOf(xs, more);
-            ys = Arrays.copyOf(ys, more);
-            zs = Arrays.copyOf(zs, more);
-            order = new int[more];
+            int more = 2 * order.length;
+            if (more > 0 && more <= MOST_ROWS) {
+                rows = Arrays.copyOf(rows, more * ROW_FIELDS);
+                order = new int[more];
+            }
         }
 
         // The rows stand by code already, so counting by depth keeps like ones in order.
@@ -1739,22 +1763,48 @@ public final class NumberedSparks {
         }
 
         private int depthOf(int row) {
-            return Math.max(0, Math.min(depths.length - 1, zs[row]));
+            return Math.max(0, Math.min(depths.length - 1, placeOf(row, 2)));
+        }
+
+        private int ofRow(int row, int what) {
+            int at = row * ROW_FIELDS + what;
+            return at >= 0 && at < rows.length ? rows[at] : 0;
+        }
+
+        int codeOf(int row) {
+            return ofRow(row, CODE);
+        }
+
+        int kindOf(int row) {
+            return ofRow(row, KIND);
+        }
+
+        int bornOf(int row) {
+            return ofRow(row, BORN);
+        }
+
+        int endOf(int row) {
+            return ofRow(row, END);
         }
 
         int placeOf(int row, int axis) {
-            if (row < 0 || row >= length) {
-                return 0;
-            }
-            return axis == 0 ? xs[row] : axis == 1 ? ys[row] : zs[row];
+            return ofRow(row, PLACE + axis);
+        }
+
+        int rowAt(int place) {
+            return place >= 0 && place < order.length ? order[place] : 0;
         }
 
         boolean isInColumn(int row, int x, int y) {
             return placeOf(row, 0) / EIGHTHS == x && placeOf(row, 1) / EIGHTHS == y;
         }
 
-        int columnOf(int row) {
-            return placeOf(row, 1) / EIGHTHS * MOST_CELLS + placeOf(row, 0) / EIGHTHS;
+        private int columnOf(int row) {
+            return columnAt(placeOf(row, 0) / EIGHTHS, placeOf(row, 1) / EIGHTHS);
+        }
+
+        private int layerOf(int row) {
+            return placeOf(row, 2) / EIGHTHS;
         }
 
         int farSquared(int row, int x, int y, int z) {
@@ -1768,9 +1818,9 @@ public final class NumberedSparks {
         int fromTop(int x, int y, int k) {
             int ahead = k;
             for (int i = length - 1; i >= 0; i--) {
-                if (isInColumn(order[i], x, y)) {
+                if (isInColumn(rowAt(i), x, y)) {
                     if (ahead == 0) {
-                        return codes[order[i]];
+                        return codeOf(rowAt(i));
                     }
                     ahead--;
                 }
@@ -1792,7 +1842,7 @@ public final class NumberedSparks {
             Arrays.fill(counts, 0);
             for (int i = 0; i < length; i++) {
                 int column = columnOf(i);
-                if (placeOf(i, 2) / EIGHTHS == z && column >= 0 && column < counts.length) {
+                if (layerOf(i) == z && column >= 0 && column < counts.length) {
                     counts[column]++;
                 }
             }
@@ -1804,11 +1854,11 @@ public final class NumberedSparks {
             long twos = 0L;
             int layerStart = 0;
             for (int i = 0; i < length; i++) {
-                if (zs[order[i]] / EIGHTHS != zs[order[layerStart]] / EIGHTHS) {
+                if (layerOf(rowAt(i)) != layerOf(rowAt(layerStart))) {
                     forgetColumns(layerStart, i, counts);
                     layerStart = i;
                 }
-                int column = columnOf(order[i]);
+                int column = columnOf(rowAt(i));
                 if (column >= 0 && column < counts.length) {
                     twos += counts[column];
                     counts[column]++;
@@ -1819,7 +1869,7 @@ public final class NumberedSparks {
 
         private void forgetColumns(int from, int until, int[] counts) {
             for (int i = Math.max(0, from); i < until && i < length; i++) {
-                int column = columnOf(order[i]);
+                int column = columnOf(rowAt(i));
                 if (column >= 0 && column < counts.length) {
                     counts[column] = 0;
                 }
@@ -1830,9 +1880,9 @@ public final class NumberedSparks {
         void markTops(int[] marks) {
             Arrays.fill(marks, 0);
             for (int i = 0; i < length; i++) {
-                int column = columnOf(order[i]);
+                int column = columnOf(rowAt(i));
                 if (column >= 0 && column < marks.length) {
-                    marks[column] = order[i] + 1;
+                    marks[column] = rowAt(i) + 1;
                 }
             }
         }

@@ -67,6 +67,9 @@ public final class LanguageTest {
     Matcher library = Pattern.compile("\\b(Arrays|Math|System|Integer|Long)\\.(\\w+)").matcher(code);
     Set<String> fine = Set.of("Arrays.fill", "Arrays.copyOf", "Arrays.copyOfRange", "System.arraycopy", "Math.max", "Math.min", "Math.abs", "Math.floorMod", "Math.floorDiv", "Integer.compare", "Long.compare");
     while (library.find()) holds("4: " + library.group(), fine.contains(library.group()));
+    // A row is asked for by a method of its own class, which looks at the index first.
+    Matcher foreign = Pattern.compile("\\b\\w+\\.\\w+\\[").matcher(code);
+    while (foreign.find()) holds("7: a row of another object, " + foreign.group(), foreign.group().startsWith("this."));
     holds("3: no text but a plain one", code.chars().allMatch(c -> c < 128));
     holds("10: no text joined by +", !Pattern.compile("\"\\s*\\+|\\+\\s*\"").matcher(code).find());
   }
@@ -88,6 +91,7 @@ public final class LanguageTest {
       holds("2: " + name + " has no class inside", type == NumberedSparks.class || type.getDeclaredClasses().length == 0);
       int fields = 0;
       for (Field field : type.getDeclaredFields()) {
+        holds("7: the row " + name + "." + field.getName() + " is private", !field.getType().isArray() || Modifier.isPrivate(field.getModifiers()));
         if (!Modifier.isStatic(field.getModifiers())) fields++;
         else holds("5: " + field.getName() + " is final", Modifier.isFinal(field.getModifiers()));
       }
